@@ -493,7 +493,12 @@ public final class OneMatch {
             return found(wrong);
         }
         int hidden = book.union() & ~seen;
-        return hidden == 0 ? NONE : Integer.numberOfTrailingZeros(hidden);
+        for (int h = 0; h < lane.houses; h++) {
+            if ((hidden >> h & 1) != 0) {
+                return h;
+            }
+        }
+        return NONE;
     }
 
     public int spring(int h, int n) {

@@ -38,6 +38,8 @@ public final class DeedsTest {
         Due.due("state ahead of full", x.strike(1), Due.STATE);
         Due.due("bad ahead of full", x.strike(5), Due.BAD);
         Due.due("not struck by refusals", x.count(2), 0);
+        x.undo(39);
+        Due.due("the 40th deed", x.strike(2), 1);
     }
 
     private static void carry() {
@@ -71,6 +73,8 @@ public final class DeedsTest {
         Due.due("state ahead of full", x.carry(1, 2), Due.STATE);
         Due.due("bad ahead of full", x.carry(1, 1), Due.BAD);
         Due.due("reach is told all the same", x.reach(), 6);
+        x.undo(39);
+        Due.due("the 40th deed", x.carry(0, 1), 2);
     }
 
     private static void reachByWind() {

@@ -149,6 +149,10 @@ public final class PlansTest {
         Due.both(x, "ten", x.run(0), 0, 36);
         x.row(0, 11);
         Due.found(x, "eleven", x.run(0), Due.SIZE);
+        Due.lay(x, 0, 99, 99);
+        x.row(0, 1);
+        Due.both(x, "only the row's own places", x.run(0), 1, 44);
+        x.row(0, 11);
         Due.lay(x, 0, 36, 37);
         Due.found(x, "37", x.run(0), Due.UNLIKE);
         Due.lay(x, 0, 36, -1);
@@ -156,7 +160,7 @@ public final class PlansTest {
         x.row(0, 11);
         x.lay(0, 0, 99);
         Due.found(x, "size ahead of unlike", x.run(0), Due.SIZE);
-        Due.due("asked behind refusals", x.asked(), 0);
+        Due.due("asked by lay, not by refusals", x.asked(), 0);
         x.carry(0, 3);
         Due.lay(x, 0, 1, 1);
         Due.both(x, "carried: the first move can't be", x.run(0), 1 | 2 | 8, 45 - 2 - 3);

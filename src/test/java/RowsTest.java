@@ -109,6 +109,11 @@ public final class RowsTest {
         OneMatch x = new OneMatch();
         Due.lay(x, 0, 1, 2, 4);
         Due.told(x, "mean", x.mean(0), 2);
+        Due.lay(x, 0, 1);
+        Due.told(x, "mean of one", x.mean(0), 1);
+        Due.lay(x, 0, 3, 3, 90);
+        x.row(0, 2);
+        Due.told(x, "nothing of the row that was there", x.mean(0), 0);
         Due.lay(x, 0, -1, -2, -4);
         Due.told(x, "mean below 0 is cut", x.mean(0), -2);
         Due.lay(x, 0, Integer.MAX_VALUE, Integer.MAX_VALUE, Integer.MAX_VALUE);

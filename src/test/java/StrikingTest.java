@@ -86,6 +86,10 @@ public final class StrikingTest {
         Due.found(x, "no set", x.hides(0, 0), Due.UNLIKE);
         Due.lay(x, 0, 0, 0, 0, 0, 7);
         Due.due("five sets", x.hides(0, 1), 1);
+        x.row(0, 1);
+        Due.due("one set", x.hides(0, 0), Due.NONE);
+        x.lay(0, 0, 4);
+        Due.due("one set, one house", x.hides(0, 0), 2);
     }
 
     private static void spring() {

@@ -82,6 +82,8 @@ public final class TellingTest {
         for (int what = 0; what < counts.length; what++) {
             Due.due("count " + what, x.count(what), counts[what]);
         }
+        x = Due.village("v0t00-h00-p00-");
+        Due.due("peat ones at the lane's ends", x.count(5), 2);
         Due.due("count 9", x.count(9), Due.BAD);
         Due.due("count -1", x.count(-1), Due.BAD);
     }

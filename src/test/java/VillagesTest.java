@@ -99,7 +99,9 @@ public final class VillagesTest {
         Due.due("houses", x.count(0), 2);
         x.strike(0);
         x.hour();
+        x.keep(0);
         x.keep(1);
+        x.keep(2);
         Due.write(x, 1, "v0h10-h1");
         long before = x.digest();
         Due.due("village by a faulty text", x.village(1), Due.STATE);
@@ -118,7 +120,9 @@ public final class VillagesTest {
         Due.due("no deeds", x.count(3), 0);
         Due.due("wood anew", x.count(4), 5);
         Due.due("kept villages go", x.count(8), 0);
-        Due.found(x, "on behind village", x.on(1), Due.NOTHING);
+        Due.found(x, "on 0 behind village", x.on(0), Due.NOTHING);
+        Due.found(x, "on 1 behind village", x.on(1), Due.NOTHING);
+        Due.found(x, "on 2 behind village", x.on(2), Due.NOTHING);
         Due.due("wind anew", x.wind(1), 2);
     }
 
