@@ -9,15 +9,21 @@ final class Due {
 
     private static int checks = 0;
     private static int wrong = 0;
+    private static String sentence = "";
 
     private Due() {
+    }
+
+    /** Names the sentence of the document to which the next answers belong, and the heading above it. */
+    static void sentence(String heading, String words) {
+        sentence = heading + ", \"" + words + "\": ";
     }
 
     static void due(String what, long got, long want) {
         checks++;
         if (got != want) {
             wrong++;
-            System.out.println(what + " answered " + got + ", due is " + want);
+            System.out.println(sentence + what + " answered " + got + ", due is " + want);
         }
     }
 
@@ -77,6 +83,24 @@ final class Due {
         }
         due(what + ": row " + Arrays.toString(got), Arrays.equals(got, values) ? 1 : 0, 1);
         due(what + ": size", x.at(r, values.length), FINDING);
+    }
+
+    /** Something that is so or not. */
+    static void holds(String what, boolean so) {
+        due(what, so ? 1 : 0, 1);
+    }
+
+    /** A village in which the match was struck. */
+    static OneMatch struck(String text, int h) {
+        OneMatch x = village(text);
+        due("strike " + h + " in '" + text + "'", x.strike(h), 1);
+        return x;
+    }
+
+    static void hours(OneMatch x, int n) {
+        for (int i = 0; i < n; i++) {
+            x.hour();
+        }
     }
 
     static int fact(OneMatch x, int h, int what) {

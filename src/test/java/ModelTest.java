@@ -1,6 +1,4 @@
-import java.lang.reflect.Method;
 import java.util.Arrays;
-import java.util.Comparator;
 import java.util.HashMap;
 import java.util.Map;
 import java.util.Random;
@@ -13,20 +11,12 @@ public final class ModelTest {
     private static final String DEEDS = "hour carry carry carry strike strike run odds lots undo lasts reach";
 
     private final Random random;
-    private final Map<String, Method> methods = new HashMap<>();
-    private final String[] names;
+    private final String[] names = Calls.names();
     private int failures = 0;
     private final Map<String, Integer> accepted = new HashMap<>();
 
     private ModelTest(long seed) {
         random = new Random(seed);
-        for (Method method : OneMatch.class.getDeclaredMethods()) {
-            if (java.lang.reflect.Modifier.isPublic(method.getModifiers())) {
-                methods.put(method.getName(), method);
-            }
-        }
-        names = methods.keySet().toArray(new String[0]);
-        Arrays.sort(names, Comparator.naturalOrder());
     }
 
     public static void main(String[] args) throws Exception {
@@ -85,11 +75,7 @@ public final class ModelTest {
 
     /** Makes a call on both: whether the answers, and all that is told then, are the same. */
     private boolean same(OneMatch x, PlainModel model, StringBuilder calls, String name, int... a) throws Exception {
-        Object[] boxed = new Object[a.length];
-        for (int i = 0; i < a.length; i++) {
-            boxed[i] = a[i];
-        }
-        long got = ((Number) methods.get(name).invoke(x, boxed)).longValue();
+        long got = Calls.call(x, name, a);
         long want = model.call(name, a);
         calls.append(name).append(Arrays.toString(a)).append('=').append(want).append("; ");
         if (got >= 0 || name.equals("digest")) {
