@@ -154,6 +154,16 @@ public final class BurningEdgesTest {
         Due.both(x, "20 ends, the dark one", x.worst(20), 20, 0);
         x.hour();
         Due.both(x, "19 ends, the dark one", x.worst(19), 19, 0);
+        for (int wood = 1; wood <= 9; wood++) {
+            // two burn until one of them is out, then one, then none: the first end of the fewest
+            OneMatch y = Due.struck("v0h90-h" + wood + "0-", 0);
+            y.carry(0, 1);
+            for (int n = 1; n <= 20; n++) {
+                int worst = n >= 9 ? 9 : n >= wood ? wood : 1;
+                int burning = n >= 9 ? 0 : n >= wood ? 1 : 2;
+                Due.both(y, "wood " + wood + ", ends " + n, y.worst(n), worst, burning);
+            }
+        }
         x.undo(0);
         Due.both(x, "nothing burns", x.worst(1), 1, 0);
         Due.both(x, "nothing burns, 20", x.worst(20), 1, 0);

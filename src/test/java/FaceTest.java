@@ -77,6 +77,10 @@ public final class FaceTest {
             Due.due(nested.getName() + " is private and static",
                     nested.getModifiers() & (Modifier.PRIVATE | Modifier.STATIC), Modifier.PRIVATE | Modifier.STATIC);
             Due.due(nested.getName() + " has no classes inside", nested.getDeclaredClasses().length, 0);
+            for (Method method : nested.getDeclaredMethods()) {
+                Due.due(nested.getName() + "." + method.getName() + " bears a public name",
+                        Modifier.isPrivate(method.getModifiers()) && openNames.contains(method.getName()) ? 1 : 0, 0);
+            }
             Due.due(nested.getName() + " has some twenty fields", ownFields(nested) <= 20 ? 1 : 0, 1);
         }
         Due.due("some twenty fields", ownFields(OneMatch.class) <= 20 ? 1 : 0, 1);

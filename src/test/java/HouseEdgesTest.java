@@ -158,10 +158,10 @@ public final class HouseEdgesTest {
 
     private static void potMark() {
         Due.sentence("Promise 14", "a POT how many HOURS there are till one in which it takes WOOD (0: this one is),");
-        int[] till = {0, 3, 2, 1, 0, 3, 2, 1, 0};
+        int[] till = {0, 3, 2, 1};
         OneMatch x = Due.village("v0t03-");
-        for (int hour = 0; hour < till.length; hour++) {
-            Due.due("hour " + hour, x.mark(0, 4), till[hour]);
+        for (int hour = 0; hour <= 40; hour++) {
+            Due.due("hour " + hour, x.mark(0, 4), till[hour % 4]);
             x.hour();
         }
     }

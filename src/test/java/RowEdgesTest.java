@@ -50,6 +50,24 @@ public final class RowEdgesTest {
                 fill(x, r, n);
             }
         }
+        theRowsOwnPlacesAlone();
+    }
+
+    /** What lay behind a ROW's end ahead of it is not seen by anyone. */
+    private static void theRowsOwnPlacesAlone() {
+        OneMatch x = Due.struck("v0h90-h90-", 0);
+        Due.lay(x, 0, 1, 99, 99);
+        x.row(0, 1);
+        x.lay(0, 0, 1);
+        Due.told(x, "mean", x.mean(0), 1);
+        Due.both(x, "run", x.run(0), 3, 16);
+        Due.chance(x, "odds", x.odds(1, 0, 6), 1, 2);
+        Due.told(x, "smoke", x.smoke(0), 1);
+        Due.lay(x, 0, 1, 2, 2);
+        x.row(0, 1);
+        x.lay(0, 0, 1);
+        Due.due("hides", x.hides(0, 1), Due.NONE);
+        Due.found(x, "copy", x.copy(0, 0, 0, 0, 2), Due.BEYOND);
     }
 
     private static void fill(OneMatch x, int r, int n) {

@@ -293,6 +293,10 @@ public final class TextEdgesTest {
         Due.due("a fault is no finding", x.finding(), 0);
         x.text(3, 0);
         Due.due("a text of none", x.fault(3), 0);
+        Due.write(x, 3, "v012012h10-h10-h10-h10-h10-");
+        for (int i = 0; i < 3; i++) {
+            Due.due("as often as one asks", x.fault(3), Due.NONE);
+        }
     }
 
     private static void faultRefused() {
@@ -331,6 +335,22 @@ public final class TextEdgesTest {
         Due.due("nothing was carried in this hour", x.reach(), 2);
         x.put(0, 1, 'x');
         Due.due("the text goes its own way", x.wind(0), 1);
+        String[] villages = {"v012012 h90-p81-s72-", "v2 d11-", "v10 i00-i23-t90-"};
+        for (String text : villages) {
+            Due.write(x, 1, text);
+            x.fault(1);
+            int houses = x.village(1);
+            OneMatch y = Due.village(text);
+            Due.due("houses of '" + text + "'", houses, y.count(0));
+            for (int hour = 0; hour <= 12; hour++) {
+                Due.due("winds of '" + text + "' alone, hour " + hour, x.wind(hour), y.wind(hour));
+            }
+            for (int h = 0; h < houses; h++) {
+                for (int what = 0; what <= 5; what++) {
+                    Due.due("house " + h + " of '" + text + "', " + what, Due.fact(x, h, what), Due.fact(y, h, what));
+                }
+            }
+        }
     }
 
     private static void villageRefused() {
