@@ -195,6 +195,14 @@ public final class DeedEdgesTest {
         x.carry(0, 1);
         x.hour();
         wetsAre(x, "what burns keeps its wet", 0, 3);
+        // NOTES.md: "does not BURN" is read as it was ahead of the HOUR's end, like "did"
+        x = Due.struck("v0h90-i13-h92-", 0);
+        x.carry(0, 1);
+        x.hour();
+        Due.due("one of the two goes out", x.fires(), 1);
+        wetsAre(x, "what burnt till the end keeps its wet, though it is out", 0, 3, 1);
+        x.hour();
+        wetsAre(x, "behind the next end it has dried", 0, 2, 1);
     }
 
     private static void nextHour() {
